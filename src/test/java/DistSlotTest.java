@@ -237,7 +237,7 @@ public final class DistSlotTest {
     }
 
     private static void noDistance(DistSlot x, int dist) {
-        due("slot(" , dist, x.slot(dist), -1);
+        due("slot(", dist, x.slot(dist), -1);
         due("extra(", dist, x.extra(dist), -1);
     }
 
